@@ -315,6 +315,15 @@ public final class PromiseTest {
         ruleFault("bar " + times("1+", 60) + "111111=1", 4 + 120, 1);
         ruleFault("bar " + times("1+", 60) + "x=1", 4 + 120, 0);
         ruleFault("bar " + times("1+", 28) + "1=1;bar " + times("1+", 29) + "1=1", 4 + 56 + 3 + 5 + 58, 3);
+        // what stood behind the end is no part of the text
+        WaterStair x = new WaterStair();
+        text(x, "bar 1<=1");
+        x.end(6);
+        due("bar 1<", x.rule(), -2 - (1 + 8 * 6));
+        text(x, "bar 1=12");
+        x.end(7);
+        forced(x, "bar 1=12".substring(0, 7));
+        due("bar 1=1", x.count(6), 1);
         String twelve = times("bar 1=1;", 12);
         ruleOk(twelve.substring(0, twelve.length() - 1));
         ruleFault(twelve + "bar 1=1", 96, 4);

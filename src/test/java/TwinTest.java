@@ -17,7 +17,7 @@ public final class TwinTest {
     private static final Map<String, Integer> tally = new TreeMap<>();
 
     public static void main(String[] args) {
-        int runs = args.length > 0 ? Integer.parseInt(args[0]) : 400;
+        int runs = args.length > 0 ? Integer.parseInt(args[0]) : 600;
         int first = args.length > 1 ? Integer.parseInt(args[1]) : 1;
         for (int run = first; run < first + runs && wrong < 20; run++) {
             new Runner(run).go();
@@ -152,7 +152,7 @@ public final class TwinTest {
             boolean flag = random.nextBoolean();
             switch (random.nextInt(32)) {
                 case 0: if (random.nextInt(6) == 0) tellStair(); break;
-                case 1: if (random.nextInt(3) == 0) tellRule(); break;
+                case 1: if (random.nextInt(2) == 0) tellRule(); break;
                 case 2: { int r = any(-2, y.rules.size()); due("force(" + r + ")", x.force(r), y.force(r)); break; }
                 case 3: { int w = any(-1, 4); due("level(" + l + ", " + w + ")", x.level(l, w), y.level(l, w)); break; }
                 case 4: { int w = any(-1, 6); due("barge(" + d + ", " + w + ")", x.barge(d, w), y.barge(d, w)); break; }
@@ -277,7 +277,7 @@ public final class TwinTest {
                 } else if (r.nextInt(40) == 0) {
                     sums(r, s, 70);
                 } else {
-                    test(r, s, r.nextInt(25) == 0 ? 12 : 2);
+                    test(r, s, r.nextInt(12) == 0 ? 8 + r.nextInt(5) : 2);
                 }
             }
             return spoiled(r, s.toString(), "bar and or not [ ] < <= = >= > + - * / 0 1 99999 100000 step down up need water below here there wide tips ; x stepp");
@@ -298,14 +298,14 @@ public final class TwinTest {
         }
 
         static void fact(Random r, StringBuilder s, int depth) {
-            int kind = depth > 5 ? 1 + r.nextInt(2) : r.nextInt(5);
+            int kind = depth > 2 ? 1 + r.nextInt(2) : r.nextInt(5);
             if (depth > 0 && kind == 1) {
                 s.append("not ");
                 fact(r, s, depth - 1);
             } else if (depth > 0 && kind == 2) {
                 s.append("[");
-                test(r, s, depth > 4 ? 0 : depth - 1);
-                if (depth > 4) {
+                test(r, s, depth > 2 ? 0 : depth - 1);
+                if (depth > 2) {
                     s.append(" or ");
                     fact(r, s, depth - 1);
                 }
