@@ -73,12 +73,24 @@ public final class TwinTest {
                 tellRule();
             }
             due("image(0)", x.image(0), y.image(0));
+            if (random.nextInt(3) == 0) {
+                askRows(random.nextBoolean());
+            }
             while (log.size() < most && wrong < 20) {
                 boolean isOver = y.crew.size() > 0 && y.tips(y.place()).isEmpty();
                 if (isOver && random.nextInt(6) == 0) {
                     refresh();
                 }
                 step();
+            }
+        }
+
+        /** All of the row by which all barges come home. */
+        void askRows(boolean flag) {
+            int all = (1 << y.barges.size()) - 1;
+            due("plan(" + all + ", " + flag + ")", x.plan(all, flag), y.plan(all, flag));
+            for (int i = 0; i < 30 && y.row(all, flag, i / 3, 0) >= 0; i++) {
+                due("row(" + all + ", " + flag + ", " + i / 3 + ", " + i % 3 + ")", x.row(all, flag, i / 3, i % 3), y.row(all, flag, i / 3, i % 3));
             }
         }
 
@@ -243,14 +255,17 @@ public final class TwinTest {
                 clauses.add("level " + water + " " + (1 + r.nextInt(r.nextInt(3) == 0 ? 8 : 3)));
             }
             int barges = r.nextInt(12) == 0 ? r.nextInt(8) : 1 + r.nextInt(6);
-            int heavy = r.nextBoolean() ? 99 : 12;
+            // of nearly the same weight: situations are had by several ways, some with less
+            boolean isNear = r.nextInt(3) == 0;
+            int least = isNear ? 10 : 1;
+            int heavy = isNear ? 3 : r.nextBoolean() ? 99 : 12;
             for (int i = 0; i < barges; i++) {
-                clauses.add("barge " + (1 + r.nextInt(heavy)) + " " + r.nextInt(4) / 3 + " " + r.nextInt(2) + " " + r.nextInt(r.nextBoolean() ? 4 : 1000));
+                clauses.add("barge " + (least + r.nextInt(heavy)) + " " + (isNear ? r.nextInt(2) : r.nextInt(4) / 3) + " " + r.nextInt(2) + " " + r.nextInt(r.nextBoolean() ? 4 : 1000));
             }
             if (r.nextInt(6) == 0 && levels > 1) {
                 clauses.add(levels, "broken " + r.nextInt(levels - 1));
             }
-            if (r.nextInt(3) > 0) {
+            if (r.nextInt(3) > 0 && !isNear) {
                 clauses.add(r.nextInt(clauses.size() + 1), "lag " + r.nextInt(21));
             }
             if (r.nextInt(40) == 0) {
@@ -798,6 +813,7 @@ public final class TwinTest {
                         all.add(q);
                         byName.put(q.name(), q);
                     } else if (!old.gone && q.cost < old.cost) {
+                        tally.merge("had with less", 1, Integer::sum);
                         old.cost = q.cost;
                         old.from = least;
                         old.by = t;
