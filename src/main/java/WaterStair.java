@@ -429,10 +429,11 @@ public final class WaterStair {
             behind = start;
             if (start >= length || start >= MOST_BYTES) {
                 kind = AT_END;
-            } else if (isDigit(bytes[start])) {
-                takeNumber();
-            } else if (isLetter(bytes[start])) {
-                takeWord();
+            } else if (hasTaken('0', '9')) {
+                kind = NUMBER;
+                number = numberTaken();
+            } else if (hasTaken('a', 'z')) {
+                kind = WORD;
             } else {
                 takeSign(bytes[start]);
             }
@@ -457,29 +458,23 @@ public final class WaterStair {
             return true;
         }
 
-        private static boolean isDigit(int sign) {
-            return sign >= '0' && sign <= '9';
-        }
-
-        private static boolean isLetter(int sign) {
-            return sign >= 'a' && sign <= 'z';
-        }
-
-        private void takeNumber() {
-            kind = NUMBER;
-            number = 0;
-            while (behind < length && behind < MOST_BYTES && isDigit(bytes[behind])) {
-                boolean isLong = behind - start >= MOST_DIGITS;
-                number = isLong ? NONE : number * 10 + bytes[behind] - '0';
+        /** Goes behind all bytes from least to most, as far as these go on; whether there was one. */
+        private boolean hasTaken(int least, int most) {
+            while (behind < length && behind < MOST_BYTES && bytes[behind] >= least && bytes[behind] <= most) {
                 behind++;
             }
+            return behind > start;
         }
 
-        private void takeWord() {
-            kind = WORD;
-            while (behind < length && behind < MOST_BYTES && isLetter(bytes[behind])) {
-                behind++;
+        private int numberTaken() {
+            if (behind - start > MOST_DIGITS) {
+                return NONE;
             }
+            int value = 0;
+            for (int i = start; i < behind && i < MOST_BYTES; i++) {
+                value = value * 10 + bytes[i] - '0';
+            }
+            return value;
         }
 
         private void takeSign(int first) {

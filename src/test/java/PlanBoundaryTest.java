@@ -28,6 +28,7 @@ public final class PlanBoundaryTest extends Sentences {
         seen();
         heading("Terms");
         wentBy();
+        wentFirst();
         heading("Promise 22");
         went();
         heading("Promise 23");
@@ -74,6 +75,7 @@ public final class PlanBoundaryTest extends Sentences {
             due("barge 2 alone, by water", x.plan(4, true), 0);
             rowIs(x, 4, true, 0, 1, 2);
             due("barge 2 alone, by tips", x.plan(4, false), 1);
+            due("both that go down", x.plan(3, false), 2);
         });
         holds("the one now is the first)", () -> {
             WaterStair x = stair(TWO);
@@ -152,11 +154,13 @@ public final class PlanBoundaryTest extends Sentences {
             x.tip(0, 1, NONE);
             due("too little", x.plan(1, false), -2);
             due("the other", x.plan(2, false), 0);
+            due("too little, by water", x.plan(1, true), -2);
             x.rain(0, 1);
             due("just enough", x.plan(1, true), 5);
             x.chain(0, false);
             due("by a chain", x.plan(1, true), -2);
             x.chain(0, true);
+            due("mended", x.plan(1, true), 5);
             force(x, "bar 1=1");
             due("by a rule", x.plan(1, true), -2);
         });
@@ -439,6 +443,19 @@ public final class PlanBoundaryTest extends Sentences {
         });
     }
 
+    private void wentFirst() {
+        holds("of these the first (as a RUN would try them).", () -> {
+            WaterStair x = stair("level 9 8;level 9 8;barge 1 0 1 0;barge 5 0 0 0;barge 5 0 0 0;barge 1 0 1 0");
+            due("down", x.went(1, 2), 1);
+            due("up", x.went(1, 3), 0);
+            due("down of the second", x.went(2, 5), 2);
+            due("up of the second", x.went(2, 6), 3);
+            x.seen(0, 8);
+            due("down: none, behind all", x.went(1, 2), NONE);
+            due("up: the least", x.went(1, 3), 0);
+        });
+    }
+
     private void went() {
         holds("1 to 9: of the first one STEP, down, up of the first TIP, of the second one, and so on", () -> {
             WaterStair x = stair("level 9 8;level 9 8;level 9 8;barge 5 0 0 0;barge 5 0 1 0");
@@ -532,7 +549,7 @@ public final class PlanBoundaryTest extends Sentences {
             due("tips in it", x.count(9), 0);
         });
         holds("or if it has 10.", () -> {
-            WaterStair x = stair("level 99 1;level 9 1;barge 1 0 1 0;barge 2 0 1 0");
+            WaterStair x = stair("level 99 1;level 9 1;barge 1 0 1 0;barge 7 0 1 0");
             for (int i = 1; i <= 10; i++) {
                 due("book", x.book(0, NONE, 0), i);
             }
@@ -667,6 +684,9 @@ public final class PlanBoundaryTest extends Sentences {
             // then 646343466 and 1751031067: 9862 mod 99 is 61, 26718 is even, down for nothing
             due("and on from there", x.seasons(2, 99, 1), 110);
             due("x", x.count(11), FAR);
+            // 0 and 12345
+            x.seed(2088216195);
+            due("to 0", x.seasons(1, 99, 1), 20 - 1);
         });
         holds("SEASONS m times (1 to 20):", () -> {
             WaterStair x = stair("level 999 1;level 0 1;barge 5 0 0 3");
@@ -692,6 +712,20 @@ public final class PlanBoundaryTest extends Sentences {
             due("mod 99 is 89", x.seasons(1, 99, 1), 90 + 20);
             due("mod 0", x.seasons(1, 0, 1), NONE);
             due("mod 100", x.seasons(1, 100, 1), NONE);
+        });
+        holds("and of WAY a DRAW mod 2,", () -> {
+            WaterStair x = stair("level 19 1;level 0 1;lag 20;barge 5 0 1 3");
+            // 21468 is even, and then 22117 is odd
+            due("down", x.seasons(1, 1, 0), 1);
+            x.seed(1406932606);
+            due("up, for which there is too little", x.seasons(1, 1, 0), 0);
+            x.rain(0, 2);
+            due("just enough", x.seasons(1, 1, 1), 21);
+        });
+        holds("a RUN of 200 TIPS:", () -> {
+            WaterStair x = stair("level 999 8" + ";level 999 8".repeat(7) + ";barge 9 0 0 0".repeat(6));
+            due("all come home", x.seasons(1, 1, 0), 6);
+            due("in all seasons", x.seasons(20, 99, 0), 120);
         });
         holds("WATER as it is now;", () -> {
             WaterStair x = stair("level 0 1;level 0 1;lag 20;barge 5 0 0 3");
@@ -733,6 +767,8 @@ public final class PlanBoundaryTest extends Sentences {
         holds("NONE without these, or a STAIR.", () -> {
             WaterStair x = stair(TWO);
             due("m -1", x.seasons(-1, 1, 0), NONE);
+            due("m 0", x.seasons(0, 1, 0), NONE);
+            due("m 21", x.seasons(21, 1, 0), NONE);
             due("m far", x.seasons(FAR, 1, 0), NONE);
             due("w -1", x.seasons(1, -1, 0), NONE);
             due("w far", x.seasons(1, FAR, 0), NONE);
@@ -835,7 +871,7 @@ public final class PlanBoundaryTest extends Sentences {
             due("what was seen", x.smuggled(0), 0);
             x.seen(0, 18);
             due("the book", x.smuggled(2), 1);
-            tell(x, "level 1 1;level 1 1");
+            tell(x, "level 1 1;level 1 1;barge 1 1 1 1;barge 2 1 1 2;barge 3 0 1 3");
             x.stair();
             due("back", x.back(2), 2);
             stays(x, before);

@@ -250,6 +250,8 @@ public final class TextBoundaryTest extends Sentences {
         holds("WORDS (small letters, as far as these go on)", () -> {
             ruleFault("bar needs=1", 4, 0);
             ruleFault("bar nee=1", 4, 0);
+            ruleFault("bar stez=1", 4, 0);
+            ruleFault("bar stepz=1", 4, 0);
             ruleFault("bar stepup=1", 4, 0);
             ruleFault("barstep=1", 0, 0);
             ruleFault("bar Step=1", 4, 0);
@@ -280,6 +282,45 @@ public final class TextBoundaryTest extends Sentences {
             force(x, "bar wide=0");
             due("none wide", x.may(0, 2, 3), -7);
             due("none wide, one alone", x.may(0, 2, NONE), -7);
+        });
+        holds("need (the WATER it takes),", () -> {
+            WaterStair x = stair("level 999 8;level 0 8;lag 20;barge 99 1 1 0;barge 20 0 0 0;barge 19 0 0 0");
+            force(x, "bar need=0");
+            due("none", x.may(0, 1, NONE), -7);
+            due("1", x.may(0, 2, NONE), 1);
+            force(x, "bar need=238");
+            due("the most, twice as much", x.may(0, NONE, 0), -7);
+            due("less", x.may(0, 2, 0), 200);
+        });
+        holds("water, below (WATER of both LEVELS),", () -> {
+            WaterStair x = stair("level 0 8;level 999 8;barge 9 0 0 0;barge 1 0 1 0");
+            force(x, "bar water=0 and below=999");
+            due("none above", x.may(0, 0, NONE), -7);
+            x.force(NONE);
+            x.rain(0, 9999);
+            x.rain(1, 9999);
+            x.tip(0, NONE, 1);
+            force(x, "bar water=9998 and below=10000");
+            due("more than rain can bring", x.may(0, 0, NONE), -7);
+            x = stair("level 9 8;level 4 8;barge 5 0 1 0");
+            force(x, "bar water=9 and below=4");
+            due("ahead of what it pours", x.may(0, NONE, 0), -7);
+        });
+        holds("here, there (BARGES at the upper, the lower LEVEL),", () -> {
+            WaterStair x = stair("level 9 8;level 0 8;level 0 8" + ";barge 9 0 0 0".repeat(6));
+            force(x, "bar here=6 and there=0");
+            due("all and none", x.may(0, 0, NONE), -7);
+            x.force(NONE);
+            x.run(1);
+            force(x, "bar here=5 and there=1");
+            due("as it is ahead of it", x.may(0, 1, NONE), -7);
+            force(x, "bar here=1 and there=0");
+            due("at another step", x.may(1, 0, NONE), -7);
+            due("not at this one", x.may(0, 1, NONE), 0);
+            x = stair("level 9 8;level 9 8;barge 9 0 0 0;barge 9 0 0 0;barge 1 0 1 0");
+            x.tip(0, 0, NONE);
+            force(x, "bar here=1 and there=2");
+            due("of either way, home or not", x.may(0, 1, 2), -7);
         });
         holds("tips (TIPS that were done, as they count).", () -> {
             WaterStair x = stair("level 9 8;level 0 8;barge 9 1 0 0;barge 9 0 0 0;barge 9 0 0 0");
@@ -419,6 +460,8 @@ public final class TextBoundaryTest extends Sentences {
             ruleFault("bar 1=1]", 7, 0);
             ruleFault("bar []", 5, 0);
             ruleFault("bar [1]=1", 6, 0);
+            ruleFault("bar [1=1 1", 9, 0);
+            ruleFault("bar [1=1;bar 1=1", 8, 0);
             ruleFault("bar 1+=1", 6, 0);
             ruleFault("bar 1=1=1", 7, 0);
             ruleFault("bar 1=1" + (char) 187, 7, 0);

@@ -87,18 +87,19 @@ public final class TipBoundaryTest extends Sentences {
     private void feed() {
         holds("Twenty bytes come behind the TAPE,", () -> {
             WaterStair x = new WaterStair();
-            // "bar tips + 1 = 1 and", cut behind "bar tips", and then " + 1 = 1            "
-            due("of an empty one", x.feed(0x62617220, 0x74697073, 0x202b2031, 0x203d2031, 0x20616e64), 20);
-            due("end", x.end(8), 8);
-            due("behind 8", x.feed(0x202b2031, 0x203d2031, 0x20202020, 0x20202020, 0x20202020), 28);
-            due("rule", x.rule(), 0);
+            // "level 1 1;level 2 2;", cut to "level 1 1;", and then "level 3 3;level 4 4 "
+            due("of an empty one", x.feed(0x6c657665, 0x6c203120, 0x313b6c65, 0x76656c20, 0x3220323b), 20);
+            due("end", x.end(10), 10);
+            due("behind 10", x.feed(0x6c657665, 0x6c203320, 0x333b6c65, 0x76656c20, 0x34203420), 30);
+            due("stair", x.stair(), 3);
+            due("the last bytes", x.level(2, 1), 4);
             for (int i = 1; i <= 20; i++) {
                 due("feed " + i, x.feed(0, 0, 0, 0, 0), 20 * i);
                 due("bytes", x.count(12), 20 * i);
             }
         });
         holds("of each number the highest first:", () -> {
-            int[] fives = {0x80202020, 0x20802020, 0x20208020, 0x20202080, 0x20202020};
+            int[] fives = {0xa0202020, 0x20a02020, 0x2020a020, 0x202020a0, 0x20202020};
             int[] wrongPlaces = {0, 1, 2, 3, 20};
             for (int i = 0; i < fives.length; i++) {
                 WaterStair x = new WaterStair();
@@ -182,8 +183,9 @@ public final class TipBoundaryTest extends Sentences {
             due("plan", x.plan(0, false), 0);
         });
         holds("(no TIPS done,", () -> {
-            WaterStair x = stair(TWO);
+            WaterStair x = stair(THREE);
             x.run(200);
+            x.would(0, 0);
             tell(x, TWO);
             x.stair();
             due("tips", x.count(3), 0);
@@ -555,12 +557,13 @@ public final class TipBoundaryTest extends Sentences {
 
     private void tip() {
         holds("A TIP: how much WATER it took;", () -> {
-            WaterStair x = stair("level 9 1;level 4 1;barge 5 0 0 0;barge 5 0 1 0;barge 1 0 1 0");
+            WaterStair x = stair("level 9 1;level 4 1;barge 5 0 0 0;barge 5 0 1 0;barge 3 0 1 0");
             due("none", x.tip(0, 0, 1), 0);
-            due("1", x.tip(0, NONE, 2), 1);
-            due("water", x.level(0, 0), 8);
-            due("below", x.level(1, 0), 5);
-            due("poured", x.count(5), 1);
+            due("it is done all the same", x.count(3), 1);
+            due("3", x.tip(0, NONE, 2), 3);
+            due("water", x.level(0, 0), 6);
+            due("below", x.level(1, 0), 7);
+            due("poured", x.count(5), 3);
         });
         holds("below 0, and nothing happens:", () -> {
             WaterStair x = stair(NARROW);
