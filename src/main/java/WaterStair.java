@@ -226,7 +226,7 @@ public final class WaterStair {
         }
         search.explore(now, ruleInForce(), false, tons);
         int best = 0;
-        for (int set = 1; now.isSet(set); set++) {
+        for (int set = 1; set < 1 << now.barges; set++) {
             if (search.costOf(set) >= 0 && now.isDearer(set, best)) {
                 best = set;
             }
@@ -243,7 +243,7 @@ public final class WaterStair {
             return NONE;
         }
         int worst = 0;
-        for (int step = 1; now.hasStep(step); step++) {
+        for (int step = 1; step < now.levels - 1; step++) {
             if (now.passersOf(step) > now.passersOf(worst)) {
                 worst = step;
             }
@@ -447,15 +447,29 @@ public final class WaterStair {
         }
 
         boolean isWord(String word) {
-            if (kind != WORD || behind - start != word.length()) {
-                return false;
-            }
-            for (int i = start; i < behind && i < MOST_BYTES; i++) {
-                if (bytes[i] != word.charAt(i - start)) {
-                    return false;
+            return wordAmong(word) == 0;
+        }
+
+        /** Which of the names, a blank between each two, the word is; NONE: it is none of these. */
+        int wordAmong(String names) {
+            int name = 0;
+            // how far the word is as the name so far; NONE: the name is another
+            int same = start;
+            for (int i = 0; i <= names.length() && kind == WORD; i++) {
+                boolean isOver = i == names.length() || names.charAt(i) == BLANK;
+                if (isOver && same == behind) {
+                    return name;
+                }
+                if (isOver) {
+                    name++;
+                    same = start;
+                } else if (same >= 0 && same < behind && same < MOST_BYTES && bytes[same] == names.charAt(i)) {
+                    same++;
+                } else {
+                    same = NONE;
                 }
             }
-            return true;
+            return NONE;
         }
 
         /** Goes behind all bytes from least to most, as far as these go on; whether there was one. */
@@ -767,7 +781,7 @@ public final class WaterStair {
         }
 
         private void readValue() {
-            int word = wordAhead();
+            int word = tape.wordAmong(Rule.NAMES);
             if (tape.kind == Tape.NUMBER && tape.number == NONE) {
                 tape.fail(1);
             } else if (tape.kind == Tape.NUMBER) {
@@ -780,40 +794,6 @@ public final class WaterStair {
                 tape.fail(0);
             }
             tape.advance();
-        }
-
-        private int wordAhead() {
-            if (tape.kind != Tape.WORD) {
-                return NONE;
-            }
-            if (tape.isWord("step")) {
-                return Rule.STEP;
-            }
-            if (tape.isWord("down")) {
-                return Rule.DOWN;
-            }
-            if (tape.isWord("up")) {
-                return Rule.UP;
-            }
-            if (tape.isWord("need")) {
-                return Rule.NEED;
-            }
-            if (tape.isWord("water")) {
-                return Rule.WATER;
-            }
-            if (tape.isWord("below")) {
-                return Rule.BELOW;
-            }
-            if (tape.isWord("here")) {
-                return Rule.HERE;
-            }
-            if (tape.isWord("there")) {
-                return Rule.THERE;
-            }
-            if (tape.isWord("wide")) {
-                return Rule.WIDE;
-            }
-            return tape.isWord("tips") ? Rule.TIPS : NONE;
         }
 
         private void countOne() {
@@ -844,6 +824,7 @@ public final class WaterStair {
         static final int WIDE = 8;
         static final int TIPS = 9;
         static final int WORDS = 10;
+        static final String NAMES = "step down up need water below here there wide tips";
         // codes from here on work on what stands before them; a number has five digits at most
         static final int PLUS = 100000;
         static final int MINUS = 100001;

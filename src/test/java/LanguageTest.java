@@ -27,6 +27,7 @@ public final class LanguageTest {
         String text = Files.readString(Path.of("src/main/java/WaterStair.java"));
         words(text);
         methods(text);
+        loops(bare(text));
         System.out.println(wrong == 0 ? "the language is kept to" : wrong + " things are not as LANGUAGE.md asks");
         if (wrong != 0) {
             System.exit(1);
@@ -118,7 +119,7 @@ public final class LanguageTest {
         library(bare, "System", "\\bSystem\\.([a-zA-Z]+)", "arraycopy");
         library(bare, "Math", "\\bMath\\.([a-zA-Z]+)\\(", "max min abs");
         library(bare, "Integer", "\\bInteger\\.([a-zA-Z_]+)", "bitCount compare");
-        library(bare, "String", "\\bword\\.([a-zA-Z_]+)", "length charAt");
+        library(bare, "String", "\\b(?:word|names|NAMES)\\.([a-zA-Z_]+)", "length charAt");
         // texts are not joined by +
         must(!Pattern.compile("S\\s*\\+|\\+\\s*S\\b").matcher(bare).find(), "no text joined by +");
         must(!Pattern.compile("while \\(true\\)|for \\([^;)]*;\\s*;").matcher(bare).find(), "no loop without an end");
@@ -129,6 +130,22 @@ public final class LanguageTest {
         while (m.find()) {
             must(List.of(allowed.split(" ")).contains(m.group(1)), of + ": no " + m.group(1));
         }
+    }
+
+    /** The end of each loop can be seen from its own line: a counter against a bound. */
+    private static void loops(String bare) {
+        int found = 0;
+        for (String line : bare.split("\n")) {
+            Matcher m = Pattern.compile("^\\s*(?:for \\([^;]*;([^;]*);.*|while \\((.*))\\{$").matcher(line);
+            if (!m.find()) {
+                must(!line.matches(".*\\b(for|while|do)\\b.*"), "a loop is told in one line: " + line.trim());
+                continue;
+            }
+            found++;
+            String goesOn = m.group(1) != null ? m.group(1) : m.group(2);
+            must(goesOn.matches("^ ?[a-z][A-Za-z]* (<|<=|>|>=) [^&|]*.*"), "an end that can be seen: " + line.trim());
+        }
+        must(found > 30, "loops are found: " + found);
     }
 
     /** Methods stay short: from a line that opens one to the line that closes it. */
